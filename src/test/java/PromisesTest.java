@@ -430,6 +430,7 @@ public final class PromisesTest {
         judgedIs("3, open again", planned(house + "27-99;", 1, 0, 2, 20), -9, -9);
         IntoTheCorner x = planned(house + "2-7;", 1, 0, 2, 20);
         judgedIs("3, WET", x, 2, 3);
+        judgedIs("3, hour 0", planned(house + "0-0;", 1, 0, 2, 20), 0, 3);
         x.planks(2);
         judgedIs("3, PLANKS", x, -9, -9);
         judgedIs("3, no way at all", planned("r1*1;r1*1;d01;n02@40-41;"), 40, 3);
@@ -500,6 +501,7 @@ public final class PromisesTest {
         late.set(0, 24);
         late.set(2, 48);
         due.is("16: dry at 53", late.soonest(), 58);
+        due.is("16: a need at hour 0", Due.houseOf("r1*1;d01;n01@0-0;").soonest(), 2);
         IntoTheCorner barred = Due.houseOf("r1*1;r1*1;d01;n02@99-99;");
         due.is("16: a need without any way", barred.soonest(), -9);
     }
@@ -555,6 +557,7 @@ public final class PromisesTest {
         Due.house(x, "r1*1;");
         due.is("17: seven", x.fewest(99), -6);
         due.is("17: -4 ahead of it", x.fewest(-1), -4);
+        due.is("17: refusals at last", x.count(13) * 100 + x.count(14) * 10 + x.count(16), 122);
         twoSetsOfPlanks();
     }
 
