@@ -589,6 +589,7 @@ public final class IntoTheCorner {
     private static final class Ways {
         // THE YARD is never SHUT, so its bit is left away.
         private static final int SHUT_SETS = 1 << MOST_ROOMS;
+        private static final int LAST_SET = SHUT_SETS - 1;
 
         private final int[] comesTo = new int[SHUT_SETS * PLACES];
         private final int[] barred = new int[SHUT_SETS];
@@ -632,17 +633,13 @@ public final class IntoTheCorner {
         }
 
         boolean leads(int from, int to, int shut) {
-            int set = setOf(shut);
+            int set = shut >> 1 & LAST_SET;
             return from >= YARD && from < PLACES && (comesTo[set * PLACES + from] >> to & 1) != 0;
         }
 
         /** NEEDS (bits) that fail while these rooms are SHUT. */
         int barredNeeds(int shut) {
-            return barred[setOf(shut)];
-        }
-
-        private static int setOf(int shut) {
-            return shut >> 1 & (SHUT_SETS - 1);
+            return barred[shut >> 1 & LAST_SET];
         }
     }
 
