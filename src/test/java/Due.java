@@ -6,10 +6,14 @@ final class Due {
     void is(String call, long got, long want) {
         looked++;
         if (got != want) {
-            wrong++;
-            if (wrong <= 50) {
-                System.out.println(call + " answered " + got + ", due is " + want);
-            }
+            fails(call + " answered " + got + ", due is " + want);
+        }
+    }
+
+    void fails(String why) {
+        wrong++;
+        if (wrong <= 50) {
+            System.out.println(why);
         }
     }
 

@@ -7,6 +7,7 @@ import java.util.Random;
 public final class ModelTest {
     private final Due due = new Due();
     private final Random random;
+    private final int[] judgedThings = new int[9];
     private IntoTheCorner x;
     private Model m;
     private int run;
@@ -21,6 +22,10 @@ public final class ModelTest {
         for (int i = 0; i < runs; i++) {
             test.run = i;
             test.oneRun();
+            test.cornerRun();
+        }
+        for (int thing = 1; thing <= 8; thing++) {
+            if (test.judgedThings[thing] == 0) test.due.fails("thing " + thing + " was never the one judged");
         }
         test.due.end();
     }
@@ -41,6 +46,34 @@ public final class ModelTest {
         }
         for (int what = -1; what <= 18; what++) {
             same("count " + what, x.count(what), m.count(what));
+        }
+    }
+
+    /** Rooms in a line, each STEP in the room that he went out into: so he comes into corners. */
+    private void cornerRun() {
+        x = new IntoTheCorner();
+        m = new Model();
+        int rooms = some(2, 5);
+        List<Integer> line = new ArrayList<>();
+        StringBuilder text = new StringBuilder();
+        for (int r = 1; r <= rooms; r++) {
+            line.add(r);
+            text.append('r').append(some(1, 9)).append('*').append(some(1, 2)).append(';');
+        }
+        Collections.shuffle(line, random);
+        line.add(0, 0);
+        for (int r = 1; r <= rooms; r++) text.append('d').append(line.get(r - 1)).append(line.get(r)).append(';');
+        house(text.toString());
+        int wet = some(1, 24);
+        same("set 0 " + wet, x.set(0, wet), m.set(0, wet));
+        int room = some(1, rooms);
+        int hour = some(0, 90);
+        for (int i = 1; i <= 4; i++) {
+            same("step " + room + " " + hour, x.step(room, hour), m.step(room, hour));
+            same("where " + i, x.where(i), m.where(i));
+            judgedCall();
+            room = m.where(i) > 0 ? m.where(i) : some(1, rooms);
+            hour = Math.min(99, m.done() + some(0, 1));
         }
     }
 
@@ -224,22 +257,21 @@ public final class ModelTest {
             case 2 -> {
                 if (random.nextInt(3) == 0) same("clear", x.clear(), m.clear());
             }
-            default -> {
-                int room = near(1, Math.max(1, m.count(0)));
-                int hour = random.nextInt(4) == 0 ? near(0, 99) : Math.min(99, Math.max(0, m.done()) + some(-1, 12));
-                hour = random.nextInt(30) == 0 ? near(0, 99) : hour;
-                same("step " + room + " " + hour, x.step(room, hour), m.step(room, hour));
-            }
+            default -> stepCall();
         }
+    }
+
+    private void stepCall() {
+        int room = near(1, Math.max(1, m.count(0)));
+        int hour = random.nextInt(4) == 0 ? near(0, 99) : Math.min(99, Math.max(0, m.done()) + some(-1, 12));
+        hour = random.nextInt(30) == 0 ? near(0, 99) : hour;
+        same("step " + room + " " + hour, x.step(room, hour), m.step(room, hour));
     }
 
     private void planCall() {
         int hour = near(0, random.nextBoolean() ? 40 : 99);
         switch (random.nextInt(7)) {
-            case 0, 1 -> {
-                same("judged 0", x.judged(0), m.judged(0));
-                same("judged 1", x.judged(1), m.judged(1));
-            }
+            case 0, 1 -> judgedCall();
             case 2 -> {
                 int what = near(0, 1);
                 same("judged " + what, x.judged(what), m.judged(what));
@@ -256,6 +288,13 @@ public final class ModelTest {
             }
             default -> same("free " + hour, x.free(hour), m.free(hour));
         }
+    }
+
+    private void judgedCall() {
+        int thing = m.judged(1);
+        same("judged 0", x.judged(0), m.judged(0));
+        same("judged 1", x.judged(1), thing);
+        judgedThings[Math.max(0, thing)]++;
     }
 
     private void orderCall() {
