@@ -229,21 +229,20 @@ final class ImageBoundaries extends Boundaries {
         for (int i = 0; i < 8; i++) x.step(5, 90 + i);
         Due.floor(x, "d####/#..../#.##./#####/####.");
         is(x.image(), 5);
-        IntoTheCorner y = x;
-        y.clear();
-        is(y.on(), 5);
-        is(y.count(1), 12);
-        is(y.door(2, 5), 1);
-        is(y.door(3, 4), 0);
-        is(y.need(7, 0), 2);
-        is(y.need(7, 3), 9);
-        is(y.room(5, 0), 9);
-        is(y.room(5, 1), 2);
-        is(y.stepOf(7, 1), 97);
-        is(y.square(0, 0), 2);
-        is(y.square(4, 4), 1);
-        is(y.square(4, 3), 0);
-        is(y.step(1, 0), -6);
+        x.clear();
+        is(x.on(), 5);
+        is(x.count(1), 12);
+        is(x.door(2, 5), 1);
+        is(x.door(3, 4), 0);
+        is(x.need(7, 0), 2);
+        is(x.need(7, 3), 9);
+        is(x.room(5, 0), 9);
+        is(x.room(5, 1), 2);
+        is(x.stepOf(7, 1), 97);
+        is(x.square(0, 0), 2);
+        is(x.square(4, 4), 1);
+        is(x.square(4, 3), 0);
+        is(x.step(1, 0), -6);
     }
 
     // ---- promise 25
