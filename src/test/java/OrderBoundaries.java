@@ -195,6 +195,20 @@ final class OrderBoundaries extends Boundaries {
         planIs(x, 1, 0, 2, 7);
     }
 
+    void promise16_whatIsShutIsByAllStepsSoFar() {
+        // Room 3 between them shuts its own hours, and room 1 is WET all the same.
+        IntoTheCorner x = house("r1*1;r1*1;r1*1;d01;d12;d03;n01@7-60;");
+        is(x.soonest(), 8);
+        planIs(x, 1, 0, 3, 1, 2, 7);
+    }
+
+    void promise16_needsAreLookedAtByAllStepsSoFar() {
+        // To room 4 one comes by 1 or by 3: until 20 one of them must be open, whatever room 2 is.
+        IntoTheCorner x = house("r1*1;r1*1;r1*1;r1*1;d01;d02;d03;d14;d34;", "n04@0-20;");
+        is(x.soonest(), 22);
+        planIs(x, 1, 0, 2, 1, 3, 7, 4, 21);
+    }
+
     void promise16_itTakesThePlaceOfALongerPlan() {
         IntoTheCorner x = planned("r1*1;d01;", 1, 9, 1, 9, 1, 9, 1, 9, 1, 9, 1, 9, 1, 9, 1, 9);
         is(x.soonest(), 1);
