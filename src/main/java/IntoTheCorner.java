@@ -701,8 +701,8 @@ public final class IntoTheCorner {
         }
 
         int coatHours(int room) {
-            int hands = Math.max(habits[HANDS], 1);
-            return (building.work[room] + hands - 1) / hands;
+            int hands = habits[HANDS];
+            return hands < 1 ? building.work[room] : (building.work[room] + hands - 1) / hands;
         }
 
         /** For how long a coat that begins keeps its ROOM SHUT. */

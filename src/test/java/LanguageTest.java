@@ -45,6 +45,8 @@ public final class LanguageTest extends TreePathScanner<Void, Void> {
     private static final Set<String> LIBRARY = Set.of("Arrays.fill", "System.arraycopy", "Math.max", "Math.min",
         "Integer.bitCount");
 
+    private static final int MOST_DEEP = 8;
+
     private final List<String> faults = new ArrayList<>();
     private CompilationUnitTree unit;
     private Trees trees;
@@ -95,11 +97,15 @@ public final class LanguageTest extends TreePathScanner<Void, Void> {
         try (StandardJavaFileManager files = compiler.getStandardFileManager(null, null, null)) {
             JavacTask task = (JavacTask) compiler.getTask(null, files, null, null, null, files.getJavaFileObjects(SOURCE));
             trees = Trees.instance(task);
-            for (CompilationUnitTree u : task.parse()) {
+            Iterable<? extends CompilationUnitTree> units = task.parse();
+            for (CompilationUnitTree u : units) {
                 unit = u;
                 check(u.getPackageName() == null, "no package line");
                 scan(u, null);
             }
+            // Behind the other looks: it adds to the trees what the source leaves away.
+            List<String> chain = new CallDepth(task, units).longestChain();
+            check(!chain.isEmpty() && chain.size() <= MOST_DEEP, "rule 11: " + chain.size() + " deep: " + chain);
         }
         check(classes <= 12, "rule 11: " + classes + " classes");
     }
